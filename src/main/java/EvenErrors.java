@@ -906,7 +906,7 @@ public final class EvenErrors {
                     size += Math.abs(weight);
                 }
             }
-            // The last point's weight has the sign of its own lean: the first one's lean turns with their number.
+            // The sum has the sign of the last point's LEAN, which is the first one's if they are odd in number.
             boolean asFirst = (Integer.bitCount(set) & 1) == 1;
             lean = sum == 0 ? 0 : (sum > 0) == asFirst ? UP : DOWN;
             long common = shared(sum, size);
@@ -1055,22 +1055,21 @@ public final class EvenErrors {
             for (int k = 0; k < MOST_STEPS && set != 0; k++) {
                 fit.measure(points, set);
                 fit.shape(points);
-                set = goOn(points, set, k);
+                int worst = worstOf(points);
+                boolean last = fit.compareErrors(points, worst, lowest(set)) == 0;
+                int gone = last ? NONE : leaving(points, set, worst);
+                keepStep(k, set, last ? NONE : worst, gone);
+                set = last ? 0 : (set | 1 << worst) & ~(1 << gone);
             }
         }
 
-        /** Keeps STEP k; the next REFERENCE, or 0: it was the last STEP. */
-        private int goOn(Points points, int set, int k) {
-            int worst = worstOf(points);
-            boolean last = fit.compareErrors(points, worst, lowest(set)) == 0;
-            int gone = last ? NONE : leaving(points, set, worst);
+        private void keepStep(int k, int set, int in, int out) {
             sets[k] = set;
             ups[k] = fit.up;
             downs[k] = fit.down;
-            ins[k] = last ? NONE : worst;
-            outs[k] = gone;
+            ins[k] = in;
+            outs[k] = out;
             steps = k + 1;
-            return last ? 0 : (set | 1 << worst) & ~(1 << gone);
         }
 
         private static int firstOf(int set, int n) {
