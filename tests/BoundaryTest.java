@@ -39,7 +39,7 @@ public final class BoundaryTest {
             }
         }
         eachRefusalIsQuoted(sections, quoted);
-        System.out.println(wrong == 0 ? run + " sentences hold, by " + Boundaries.asked() + " answers"
+        System.out.println(wrong == 0 ? run + " tests of sentences hold, by " + Boundaries.asked() + " answers"
             : wrong + " faults");
         if (wrong != 0) {
             System.exit(1);
