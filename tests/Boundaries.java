@@ -1,7 +1,7 @@
 import java.util.ArrayList;
 import java.util.List;
 
-/** What the tests of boundary cases share. Each fault is told by the line of the test that found it. */
+/** What the tests of sentences share. Each fault is told by the line of the test that found it. */
 abstract class Boundaries {
     static final long BAD = -1, NOT = -2, FULL = -3, NONE = -4, NULL = -11, CAST = -12, INDEX = -13, SIZE = -14;
     static final int LEAST_INT = Integer.MIN_VALUE;
@@ -25,7 +25,7 @@ abstract class Boundaries {
     private static String where() {
         StringBuilder lines = new StringBuilder();
         for (StackTraceElement at : new Throwable().getStackTrace()) {
-            boolean own = at.getClassName().endsWith("Boundaries") && !at.getClassName().equals("Boundaries");
+            boolean own = at.getClassName().matches("[A-Z][a-z]+(Boundaries|Sentences)");
             if (own && lines.length() == 0) {
                 lines.append(at.getFileName()).append(':').append(at.getLineNumber());
             } else if (own) {

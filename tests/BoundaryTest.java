@@ -9,17 +9,21 @@ import java.util.Comparator;
 import java.util.List;
 import java.util.Map;
 import java.util.TreeMap;
+import java.util.regex.Matcher;
+import java.util.regex.Pattern;
 
 /**
- * Runs a test for each sentence of ../shared/DOC.md that names a boundary case, and looks whether the sentence
- * stands there, and whether each refusal that a promise names has a test. Arguments are parts of names of tests:
- * just these run. Run it from the project's own directory.
+ * Runs tests for each sentence of ../shared/DOC.md, most of them of its boundary cases, and looks whether the sentence
+ * stands there, and whether a test quotes each word of Terms and of the promises. Arguments are parts of names of
+ * tests: just these run. Run it from the project's own directory.
  */
 public final class BoundaryTest {
     private static final List<Class<?>> TESTS = List.of(TermsBoundaries.class, PointsBoundaries.class,
-        TextBoundaries.class, FitBoundaries.class, DoneBoundaries.class, SheetsBoundaries.class);
-    private static final String[] REFUSALS = {"BAD", "NOT", "FULL", "NONE", "NULL", "CAST", "INDEX", "SIZE"};
+        TextBoundaries.class, FitBoundaries.class, DoneBoundaries.class, SheetsBoundaries.class, PlainSentences.class);
     private static final int PROMISES = 28;
+    /** What of a section is no sentence of its own. */
+    private static final String[] HEADINGS = {"^Terms", "^Promise [0-9]+: [^`]*`[^`]*`:", "```text", "====( [12](?= ))?",
+        "Ahead of the calls (`[a-z]+`,? )+the interface says: ----( [123] (points|the fit|what is done))?"};
     private static int wrong = 0;
 
     public static void main(String[] args) throws Exception {
@@ -38,7 +42,7 @@ public final class BoundaryTest {
                 }
             }
         }
-        eachRefusalIsQuoted(sections, quoted);
+        eachWordIsQuoted(sections, quoted);
         System.out.println(wrong == 0 ? run + " tests of sentences hold, by " + Boundaries.asked() + " answers"
             : wrong + " faults");
         if (wrong != 0) {
@@ -88,20 +92,36 @@ public final class BoundaryTest {
         return sections;
     }
 
-    private static void eachRefusalIsQuoted(Map<String, String> sections, Map<String, String> quoted) {
-        for (int promise = 1; promise <= PROMISES; promise++) {
-            String in = "Promise " + promise;
+    /** Headings and faces aside, each word of Terms and of each promise stands in a quote. */
+    private static void eachWordIsQuoted(Map<String, String> sections, Map<String, String> quoted) {
+        for (int promise = 0; promise <= PROMISES; promise++) {
+            String in = promise == 0 ? "Terms" : "Promise " + promise;
             String section = sections.getOrDefault(in, "");
             fine(!section.isEmpty(), "the document has no " + in);
-            fine(quoted.containsKey(in), in + " has no test");
-            for (String refusal : REFUSALS) {
-                fine(!names(section, refusal) || names(quoted.getOrDefault(in, ""), refusal),
-                    in + " names " + refusal + ", and no test quotes it");
+            boolean[] held = new boolean[section.length()];
+            for (String heading : HEADINGS) {
+                hold(held, section, heading);
             }
+            for (String quote : quoted.getOrDefault(in, "").split("\n")) {
+                hold(held, section, Pattern.quote(quote));
+            }
+            String left = leftOver(section, held);
+            fine(left.isEmpty(), in + " says, and no test quotes it: " + left);
         }
     }
 
-    private static boolean names(String text, String refusal) {
-        return text.matches("(?s).*\\b" + refusal + "\\b.*");
+    private static void hold(boolean[] held, String section, String pattern) {
+        Matcher matcher = Pattern.compile(pattern).matcher(section);
+        while (matcher.find()) {
+            Arrays.fill(held, matcher.start(), matcher.end(), true);
+        }
+    }
+
+    private static String leftOver(String section, boolean[] held) {
+        StringBuilder left = new StringBuilder();
+        for (int k = 0; k < held.length; k++) {
+            left.append(held[k] ? '.' : section.charAt(k));
+        }
+        return left.toString().matches(".*[A-Za-z0-9].*") ? left.toString().replaceAll("[ .]{2,}", " .. ") : "";
     }
 }

@@ -3,7 +3,7 @@ import java.lang.annotation.Retention;
 import java.lang.annotation.RetentionPolicy;
 import java.lang.annotation.Target;
 
-/** On a test of a boundary case: the sentence of ../shared/DOC.md that it tests, word by word. */
+/** On a test: the sentence of ../shared/DOC.md that it tests, word by word. */
 @Retention(RetentionPolicy.RUNTIME)
 @Target(ElementType.METHOD)
 @interface Sentence {

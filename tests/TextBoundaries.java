@@ -228,7 +228,7 @@ final class TextBoundaries extends Boundaries {
         fine(text.substring(0, 89) + ")", 1);
     }
 
-    @Sentence(in = "Terms", says = "of a number that is not as told by its first one or two figures (q -3 .. 3;")
+    @Sentence(in = "Terms", says = "or of a number that is not as told by its first one or two figures (q -3 .. 3;")
     static void aQThatIsNotAsToldIsAFaultAtItsFirstLetter() {
         fine("1;-3,3,-3;", 0);
         fault("1;4;", 2);
